@@ -1,0 +1,232 @@
+/** Promises 33 to 37: games. */
+public final class GamesTest {
+    private static final Due due = new Due();
+
+    public static void main(String[] args) {
+        typeAndWipe();
+        faults();
+        refusals();
+        stringsWear();
+        winsAndBouts();
+        rings();
+        turns();
+        keeping();
+        topsInRings();
+        due.end();
+    }
+
+    private static void typeAndWipe() {
+        TopYard yard = new TopYard();
+        due.is(34, "wipe()", yard.wipe(), 0);
+        due.is(33, "type(-1)", yard.type(-1), Due.BAD);
+        due.is(33, "type(256)", yard.type(256), Due.BAD);
+        for (int n = 1; n <= 40; n++) due.is(33, "type, byte " + n, yard.type(n == 1 ? 0 : 255), n);
+        due.is(33, "type, one too many", yard.type(1), Due.FULL);
+        due.is(33, "type, wrong when full", yard.type(256), Due.BAD);
+        due.is(33, "count(7)", yard.count(7), 40);
+        due.is(34, "wipe()", yard.wipe(), 40);
+        due.is(34, "count(7)", yard.count(7), 0);
+        due.is(34, "fault()", yard.fault(), 0);
+    }
+
+    private static void faultOf(String text, int want) {
+        TopYard yard = new TopYard();
+        Due.type(yard, text);
+        due.is(35, "fault() of " + text, yard.fault(), want);
+        due.is(35, "count(7)", yard.count(7), text.length());
+    }
+
+    private static void faults() {
+        faultOf("", 0);
+        for (String right : new String[] {"w1", "w9", "b1", "b20", "r0", "r30", "t1", "t60", "k0", "k3", "w01", "k00",
+            "w2;b3;r4;t5;k1", "k3;t60;r30;b20;w09"}) {
+            faultOf(right, Due.NONE);
+        }
+        for (String bad : new String[] {"w0", "w10", "b0", "b21", "r31", "t0", "t61", "k4", "w00", "w99", "w0x", "w123", "k", "w;",
+            "w-1", "wx"}) {
+            faultOf(bad, 1);
+        }
+        for (String bad : new String[] {"x1", "W1", ";w1", "1", " w1"}) faultOf(bad, 0);
+        faultOf("b123", 3);
+        faultOf("w1;", 3);
+        faultOf("w1;;", 3);
+        faultOf("w1;w1", 3);
+        faultOf("w1;w", 3);
+        faultOf("w1;q1", 3);
+        faultOf("w1 ;b1", 2);
+        faultOf("w1b1", 2);
+        faultOf("w1;b", 4);
+        faultOf("w1;b21", 4);
+        faultOf("w1;b2x", 5);
+        faultOf("w2;b3;r4;t5;k1;", 15);
+        faultOf("w2;b3;r4;t5;k1;k1", 15);
+        faultOf("w2;b3;r4;t5;w1", 12);
+        faultOf("w1" + (char) 0, 2);
+        faultOf("w1" + (char) 187, 2);
+    }
+
+    private static void refusals() {
+        TopYard yard = Due.weakYard();
+        due.is(36, "play(0, 1) of an empty one", yard.play(0, 1), Due.NOT);
+        Due.type(yard, "w1");
+        int[][] wrong = {{-1, 0}, {8, 0}, {0, -1}, {0, 8}, {0, 0}, {5, 5}};
+        for (int[] a : wrong) due.is(36, "play, wrong", yard.play(a[0], a[1]), Due.BAD);
+        due.is(36, "play(0, 2), who has no TOPS", yard.play(0, 2), Due.NOT);
+        due.is(36, "play(2, 0), who has no TOPS", yard.play(2, 0), Due.NOT);
+        Due.type(yard, ";");
+        due.is(36, "play(0, 1) with a FAULT", yard.play(0, 1), Due.NOT);
+        due.is(36, "play(0, 0) with a FAULT", yard.play(0, 0), Due.BAD);
+        for (int what = 0; what < 4; what++) due.is(37, "played, before any", yard.played(what), 0);
+        due.is(37, "played(-1)", yard.played(-1), Due.BAD);
+        due.is(37, "played(4)", yard.played(4), Due.BAD);
+        due.is(38, "met(0, 1)", yard.met(0, 1), 0);
+        due.is(36, "STRENGTH stays", yard.string(0, 2), 2);
+    }
+
+    private static void playedIs(TopYard yard, int... want) {
+        for (int what = 0; what < 4; what++) due.is(37, "played(" + what + ")", yard.played(what), want[what]);
+    }
+
+    /** The first BOUT has the STRINGS as they are, the second has them 1 weaker. */
+    private static void stringsWear() {
+        TopYard yard = Due.weakYard();
+        yard.wear(1, 1);
+        Due.type(yard, "b3;w2");
+        due.is(36, "play(0, 1)", yard.play(0, 1), 0);
+        playedIs(yard, 3, 1, 0, 0);
+        due.is(36, "STRENGTH of 0", yard.string(0, 3), 0);
+        due.is(36, "STRENGTH of 1", yard.string(1, 3), 0);
+        due.is(36, "STRENGTH of 2", yard.string(2, 3), 100);
+        // With 3 both FALL behind TICK 6 (SPIN 30 29 27 24 20 15 9; 30 28 25 21 16 10 3), with 2 as told.
+        due.is(36, "play(1, 0)", yard.play(1, 0), 0);
+        playedIs(yard, 3, 0, 1, 0);
+        due.is(36, "play(1, 0), too weak both", yard.play(1, 0), Due.NONE);
+        playedIs(yard, 3, 0, 0, 0);
+        due.is(36, "STRENGTH of 0, not below 0", yard.string(0, 0), 0);
+        due.is(36, "count(10)", yard.count(10), 4);
+    }
+
+    private static void winsAndBouts() {
+        TopYard yard = Due.weakYard();
+        yard.wear(0, 1);
+        yard.string(0, 9);
+        yard.string(1, 9);
+        Due.type(yard, "t2");
+        due.is(36, "play(0, 1), w 1", yard.play(0, 1), 1);
+        playedIs(yard, 1, 0, 1, 0);
+        yard.wear(1, 1);
+        due.is(36, "play(0, 1), nobody wins, b 5", yard.play(0, 1), Due.NONE);
+        playedIs(yard, 5, 0, 0, 0);
+        due.is(36, "STRENGTH of 0", yard.string(0, 100), 3);
+        yard.string(1, 100);
+        yard.wear(1, 2);
+        Due.type(yard, ";w9;b20");
+        due.is(36, "play(1, 0), w 9", yard.play(1, 0), 0);
+        playedIs(yard, 9, 0, 9, 0);
+        due.is(36, "STRENGTH of 0", yard.string(0, 100), 91);
+        due.is(38, "met(0, 1)", yard.met(0, 1), 3);
+        yard.wipe();
+        Due.type(yard, "w");
+        yard.play(0, 1);
+        playedIs(yard, 9, 0, 9, 0);
+    }
+
+    /**
+     * Without STRENGTH both FALL in TICK 1, p's at -368, 60; q's at 368, -60 or, with the DENT, at
+     * 405, -60. THE RING of 6 has the square 152100, of 5 105625, of 7 207025.
+     */
+    private static void rings() {
+        TopYard yard = Due.weakYard();
+        yard.string(0, 0);
+        yard.string(1, 0);
+        Due.type(yard, "r6");
+        due.is(36, "play(0, 1), both FALL within", yard.play(0, 1), Due.NONE);
+        yard.dent(7, 0, -20);
+        due.is(36, "play(0, 1), just one FALLS within", yard.play(0, 1), 0);
+        playedIs(yard, 1, 1, 0, 0);
+        due.is(36, "play(1, 0), just one FALLS within", yard.play(1, 0), 1);
+        yard.smooth();
+        yard.dent(-7, 0, -20);
+        due.is(36, "play(0, 1), just the other FALLS within", yard.play(0, 1), 1);
+        due.is(36, "count(10)", yard.count(10), 4);
+        yard.bowl(1, 6);
+        due.is(26, "expected(0, 1) knows no such win", yard.expected(0, 1), 0);
+        for (String text : new String[] {"r5", "r7", "r0", "w1"}) {
+            yard.wipe();
+            Due.type(yard, text);
+            due.is(36, "play(0, 1) with " + text, yard.play(0, 1), Due.NONE);
+        }
+        // One who stands wins, though the other one fell within THE RING.
+        yard.wipe();
+        Due.type(yard, "r30");
+        yard.string(0, 2);
+        due.is(36, "play(0, 1), one stands", yard.play(0, 1), 0);
+    }
+
+    private static void turns() {
+        TopYard yard = Due.weakYard();
+        yard.wear(1, 1);
+        yard.string(0, 100);
+        yard.string(1, 100);
+        Due.type(yard, "b1;t1");
+        due.is(36, "play(0, 1) with t 1", yard.play(0, 1), Due.NONE);
+        yard.wipe();
+        Due.type(yard, "b1;t2");
+        due.is(36, "play(0, 1) with t 2", yard.play(0, 1), 0);
+        due.is(36, "play(1, 0) with t 2", yard.play(1, 0), 0);
+    }
+
+    private static TopYard keepers() {
+        TopYard yard = new TopYard();
+        for (int t = 0; t < 8; t++) yard.top(16, 1, 1, 1, t % 2 == 0 ? 0 : 1);
+        for (int t = 1; t < 8; t += 2) yard.wear(t, 9);
+        return yard;
+    }
+
+    private static void owners(TopYard yard, int... want) {
+        for (int t = 0; t < want.length; t++) due.is(36, "OWNER of " + t, yard.about(t, 4), want[t]);
+    }
+
+    private static void keeping() {
+        TopYard yard = keepers();
+        Due.type(yard, "t2;k3");
+        due.is(36, "play(0, 1), k 3", yard.play(0, 1), 0);
+        playedIs(yard, 1, 1, 0, 3);
+        owners(yard, 0, 0, 0, 0, 0, 0, 0, 1);
+        due.is(36, "play(1, 0), k 3", yard.play(1, 0), 0);
+        playedIs(yard, 1, 0, 1, 1);
+        owners(yard, 0, 0, 0, 0, 0, 0, 0, 0);
+        due.is(36, "play(1, 0), no TOPS left", yard.play(1, 0), Due.NOT);
+        TopYard none = keepers();
+        Due.type(none, "t2;k0");
+        due.is(36, "play(0, 1), k 0", none.play(0, 1), 0);
+        owners(none, 0, 1, 0, 1, 0, 1, 0, 1);
+        TopYard draw = keepers();
+        Due.type(draw, "t1;k3");
+        due.is(36, "play(0, 1), nobody wins", draw.play(0, 1), Due.NONE);
+        playedIs(draw, 5, 0, 0, 0);
+        owners(draw, 0, 1, 0, 1, 0, 1, 0, 1);
+    }
+
+    /** p has TOPS 0, 2, 4 of WEAR 0, 3, 1; q has 1, 3 of WEAR 1, 2. */
+    private static void topsInRings() {
+        TopYard yard = new TopYard();
+        int[] wears = {0, 1, 3, 2, 1};
+        for (int t = 0; t < 5; t++) {
+            yard.top(16, 1, 1, 1, t % 2);
+            yard.wear(t, wears[t]);
+        }
+        // p wins, q wins, nobody (1, 1), p wins (0, 2), q wins (3, 1), p wins (1, 2), then again.
+        Due.type(yard, "t2;w9;b3");
+        due.is(36, "play(0, 1), 3 BOUTS", yard.play(0, 1), Due.NONE);
+        playedIs(yard, 3, 1, 1, 0);
+        yard.wipe();
+        Due.type(yard, "t2;w9;b6");
+        due.is(36, "play(0, 1), 6 BOUTS", yard.play(0, 1), 0);
+        playedIs(yard, 6, 3, 2, 0);
+        yard.wipe();
+        Due.type(yard, "t2;w2;b20");
+        due.is(36, "play(1, 0), who first wins 2", yard.play(1, 0), 0);
+        playedIs(yard, 4, 1, 2, 0);
+    }
+}
