@@ -1580,19 +1580,14 @@ public final class TopYard {
             }
             // From the heaviest down, so that no bag holds the same top twice.
             for (int w = limit; w >= weight; w--) {
-                if (worths[w - weight] != NO_BAG) {
-                    better(w, worths[w - weight] + worth, bits[w - weight] | 1 << offers);
+                int before = worths[w - weight];
+                // Of like ones the bag that was there stays: its bits are lower without the new one.
+                if (before != NO_BAG && before + worth > worths[w]) {
+                    worths[w] = before + worth;
+                    bits[w] = bits[w - weight] | 1 << offers;
                 }
             }
             offers++;
-        }
-
-        private void better(int weight, int worth, int asBits) {
-            boolean asGood = worth == worths[weight] && asBits < bits[weight];
-            if (worth > worths[weight] || asGood) {
-                worths[weight] = worth;
-                bits[weight] = asBits;
-            }
         }
 
         int bestWeight() {

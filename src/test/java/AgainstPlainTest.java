@@ -26,7 +26,8 @@ public final class AgainstPlainTest {
         long seed = args.length > 1 ? Long.parseLong(args[1]) : 20261118L;
         AgainstPlainTest test = new AgainstPlainTest();
         for (int run = 0; run < runs && test.wrong < 5; run++) {
-            test.oneRun(run, new Random(seed + run));
+            if (run % 10 == 9) test.meetingRun(run, new Random(seed + run));
+            else test.oneRun(run, new Random(seed + run));
         }
         test.checkCover();
         System.out.println(test.wrong == 0 ? "all answers are alike" : test.wrong + " answers differ");
@@ -64,6 +65,20 @@ public final class AgainstPlainTest {
             if (plain.call("count", 6) > 6 && !quiet && name.equals("was")) name = "forget";
             both(run, yard, plain, said, name, draw(name, r, owners, (int) plain.call("count", 0)));
             if (wrong >= 5) return;
+        }
+    }
+
+    /** Many games of all eight owners, so that pairings have much to weigh. */
+    private void meetingRun(int run, Random r) throws Exception {
+        TopYard yard = new TopYard();
+        PlainYard plain = new PlainYard();
+        List<String> said = new ArrayList<>();
+        for (int t = 0; t < 24; t++) both(run, yard, plain, said, "top", draw("top", r, 8, 1));
+        for (char b : "b1;t1".toCharArray()) both(run, yard, plain, said, "type", b);
+        while (said.size() < 512 && wrong < 5) {
+            String name = r.nextInt(3) > 0 ? "play" : r.nextInt(9) > 0 ? "pairing" : "met";
+            both(run, yard, plain, said, name, drawGood(name, r, 8, 24));
+            if (name.equals("pairing")) both(run, yard, plain, said, "pairing", 255, r.nextInt(8));
         }
     }
 

@@ -15,6 +15,11 @@ public final class BoutsTest {
         outOfBowl();
         wholeLength();
         strongStrings();
+        leanWays();
+        leanBounds();
+        leanTooMuch();
+        edgesOfRingAndBowl();
+        alongY();
         due.end();
     }
 
@@ -265,6 +270,105 @@ public final class BoutsTest {
         due.is(18, "SPIN of 0", yard.state(0, 400, 5), 380 + 400 - 400);
         due.is(18, "HEADING of 0", yard.state(0, 400, 2), (26 + 400) % 36);
         due.is(18, "SPIN of 0, earlier", yard.state(0, 1, 5), 380 + 400 - 1);
+    }
+
+    /** LEAN pushes along the new HEADING. */
+    private static void leanWays() {
+        TopYard yard = new TopYard();
+        yard.top(10, 1, 3, 1, 0);
+        yard.top(10, 1, 3, -1, 0);
+        yard.wear(0, 4);
+        yard.wear(1, 9);
+        yard.enter(0, 0, 0, 0, 30);
+        yard.enter(1, 0, 0, 18, 30);
+        // SPIN 300 less 1, 1, 4; LEAN 3; HEADING 4: P 650 and 24, less 42; Q 18, less 1.
+        states(yard, 0, 1, 63, 1, 4, 632, 17, 294, 3, 0);
+        // SPIN 300 less 1, 3, 4; LEAN 4 less 1; HEADING 14: P -650 less 24, and 42; Q 18, less 1.
+        states(yard, 1, 1, -63, 1, 14, -632, 17, 292, 3, 0);
+    }
+
+    private static int leanBehindOne(int wear, int turns, int whip) {
+        TopYard yard = new TopYard();
+        yard.top(10, 1, 1, 1, 0);
+        yard.top(10, 1, 1, 1, 0);
+        yard.wear(0, wear);
+        yard.enter(0, 0, 0, 0, turns);
+        yard.enter(1, 5, 5, 0, 30);
+        if (whip > 0) yard.whip(0, 1, whip);
+        return yard.state(0, 1, 6);
+    }
+
+    private static void leanBounds() {
+        // With WEAR 1 SPIN loses 2: 110 and 1, 110 and 2 come to 109, 110.
+        due.is(18, "LEAN with SPIN 109", leanBehindOne(1, 11, 1), 1);
+        due.is(18, "LEAN with SPIN 110", leanBehindOne(1, 11, 2), 0);
+        // With WEAR 0 it loses 1.
+        due.is(18, "LEAN with SPIN 49", leanBehindOne(0, 5, 0), 1);
+        due.is(18, "LEAN with SPIN 50", leanBehindOne(0, 5, 1), 0);
+        due.is(18, "LEAN with SPIN 299", leanBehindOne(0, 30, 0), 0);
+        // WEAR 9: LEAN 4, SPIN loses 1, 2, 4: 150 and 0 comes to 143, 140 and 6 to 139.
+        due.is(18, "LEAN with SPIN 143", leanBehindOne(9, 15, 0), 3);
+        due.is(18, "LEAN with SPIN 139", leanBehindOne(9, 14, 6), 4);
+    }
+
+    private static void leanTooMuch() {
+        TopYard yard = new TopYard();
+        yard.top(10, 1, 1, 1, 0);
+        yard.top(10, 1, 1, 1, 1);
+        yard.string(0, 4);
+        yard.enter(0, 0, 0, 0, 30);
+        yard.enter(1, 8, 0, 9, 30);
+        yard.whip(0, 8, 30);
+        int[] spins = {40, 39, 37, 34, 30, 25, 19, 12, 34, 25};
+        for (int tick = 0; tick < 10; tick++) {
+            due.is(18, "SPIN behind " + tick, yard.state(0, tick, 5), spins[tick]);
+            due.is(18, "LEAN behind " + tick, yard.state(0, tick, 6), tick);
+        }
+        due.is(18, "it stands with LEAN 8", yard.state(0, 8, 7), 0);
+        due.is(18, "it has fallen with LEAN 9", Math.min(2, yard.state(0, 9, 7)), 2);
+        due.is(15, "run()", yard.run(), 9);
+    }
+
+    /** From -1, 0 a light one comes to 0, 0; with DENTS to where THE RING or the bowl just ends. */
+    private static void edgesOfRingAndBowl() {
+        TopYard yard = new TopYard();
+        yard.top(1, 1, 1, 1, 0);
+        yard.top(1, 1, 1, 1, 1);
+        yard.string(0, 0);
+        yard.bowl(1, 0);
+        yard.enter(0, -1, 0, 0, 30);
+        yard.enter(1, 0, 9, 0, 30);
+        // LEAN 1 turns it by 2, and pushes by less than 1.
+        states(yard, 0, 1, 0, 0, 2, 65, 0, 0, 1, 3);
+        yard.clear();
+        yard.dent(-1, 0, 2);
+        yard.dent(5, 0, -10);
+        yard.bowl(1, 1);
+        yard.enter(0, 0, 0, 0, 30);
+        yard.enter(1, 4, 0, 0, 30);
+        states(yard, 0, 1, 65, 0, 2, 65, 0, 0, 1, 3);
+        yard.bowl(1, 0);
+        due.is(18, "THE RING is less", yard.state(0, 1, 7), 2);
+        yard.bowl(0, 5);
+        states(yard, 1, 1, 325, 0, 1, 65, 0, 299, 0, 0);
+        yard.dent(5, 0, -1);
+        states(yard, 1, 1, 327, 0, 1, 67, 0, 299, 0, 1);
+    }
+
+    /** As bounce() and lock(), turned by a quarter. */
+    private static void alongY() {
+        for (int rim = 2; rim <= 3; rim++) {
+            TopYard yard = new TopYard();
+            yard.top(10, 2, 3, 1, 0);
+            yard.top(10, rim, 3, 1, 0);
+            yard.enter(0, 0, 0, 9, 30);
+            yard.enter(1, 0, 2, 27, 20);
+            states(yard, 0, 1, 0, 61, 10, 0, rim == 2 ? -37 : -685, 286, 0, 0);
+            states(yard, 1, 1, 0, 62, 28, 0, rim == 2 ? -38 : 610, 210, 0, 0);
+            yard.string(0, 0);
+            due.is(18, "SPIN is 0 at least", yard.state(0, 1, 5), 0);
+            due.is(18, "SPIN is 0 at least", yard.state(1, 1, 5), 0);
+        }
     }
 
     private static void strongStrings() {

@@ -13,6 +13,8 @@ public final class ChoicesTest {
         roundedDown();
         refusals();
         expected();
+        payIsNew();
+        howItIsPut();
         due.end();
     }
 
@@ -167,6 +169,49 @@ public final class ChoicesTest {
         yard.among(1, 0);
         due.is(24, "value() without ROWS", yard.value(), Due.LEAST);
         due.is(25, "mix(1, 0) without ROWS", yard.mix(1, 0), Due.NOT);
+    }
+
+    /** Whichever side comes first, nothing of an earlier choice is left. */
+    private static void payIsNew() {
+        TopYard yard = yardWith(4);
+        for (int first = 0; first < 2; first++) {
+            for (int t = 0; t < 4; t++) yard.among(first, t);
+            for (int t = 0; t < 4; t++) yard.among(1 - first, t);
+            for (int i = 0; i < 4; i++) {
+                for (int j = 0; j < 4; j++) due.is(20, "PAY of " + i + ", " + j, yard.pay(i, j, 5), 0);
+            }
+            yard.choose();
+        }
+        for (int t = 0; t < 4; t++) yard.among(0, t);
+        for (int t = 0; t < 4; t++) yard.among(1, t);
+        for (int i = 0; i < 4; i++) {
+            for (int j = 0; j < 4; j++) due.is(20, "PAY of " + i + ", " + j, yard.pays(i, j), 0);
+        }
+    }
+
+    /** FILLED tells what the same bout tells when it is put by hand. */
+    private static void howItIsPut() {
+        int[] told = new int[3];
+        for (int seed = 0; seed < 60; seed++) {
+            TopYard yard = new TopYard();
+            yard.top(1 + seed % 50, 1 + seed % 12, 1 + seed % 9, 1, 0);
+            yard.top(1 + 7 * seed % 50, 1 + 5 * seed % 12, 1 + 4 * seed % 9, -1, 1);
+            yard.bowl(0, 5 + seed % 26);
+            yard.dent(seed % 5 - 2, seed % 7 - 3, seed % 41 - 20);
+            yard.wear(0, seed % 10);
+            int half = (5 + seed % 26) / 2;
+            yard.enter(0, -half, 0, 9, 30);
+            yard.enter(1, half, 0, 27, 30);
+            int place = yard.winner();
+            int want = place == 0 ? 1 : place == 1 ? -1 : 0;
+            told[want + 1]++;
+            due.is(26, "expected(0, 1) of " + seed, yard.expected(0, 1), want);
+            yard.among(0, 0);
+            yard.among(1, 1);
+            due.is(23, "fill() of " + seed, yard.fill(), want * want);
+            due.is(23, "pays(0, 0) of " + seed, yard.pays(0, 0), want);
+        }
+        due.is(26, "each of 1, -1 came", told[0] > 5 && told[2] > 5 ? 1 : 0, 1);
     }
 
     private static void expected() {

@@ -6,6 +6,7 @@ public final class MeetingsTest {
         met();
         pairing();
         allMeetEvenOften();
+        deepPairing();
         pairingRefusals();
         bag();
         bagTies();
@@ -98,6 +99,27 @@ public final class MeetingsTest {
         }
     }
 
+    /** All eight are needed to see which is least: the first pairs alone would mislead. */
+    private static void deepPairing() {
+        TopYard yard = eight();
+        // With 0 1 met never, whatever is left after them has met often: 2 to 7 twice each.
+        for (int p = 2; p < 8; p++) {
+            for (int q = p + 1; q < 8; q++) {
+                yard.play(p, q);
+                yard.play(p, q);
+            }
+        }
+        // 0 1: 1 and 3 times 9. 0 2, 1 3: 2 and 2 times 9.
+        pairs(yard, 255, 0, 2, 1, 3, 4, 5, 6, 7);
+        yard.play(4, 5);
+        // 4 5 is 16 now; 4 6, 5 7 are 9 each.
+        pairs(yard, 255, 0, 2, 1, 3, 4, 6, 5, 7);
+        for (int q = 3; q < 8; q++) yard.play(1, q);
+        // 0 2, 1 3: 1, 4, 9, 9. 0 3, 1 2: 1, 1, 9, 9.
+        pairs(yard, 255, 0, 3, 1, 2, 4, 6, 5, 7);
+        pairs(yard, 255 - 8 - 4, 0, 4, 1, 5, 6, 7);
+    }
+
     private static void pairingRefusals() {
         TopYard yard = new TopYard();
         int[][] wrong = {{0, 0}, {1, 0}, {7, 0}, {127, 3}, {3, 2}, {3, -1}, {3, 8}, {255, 8}, {256, 8}, {257, 0}, {-1, 0},
@@ -168,5 +190,10 @@ public final class MeetingsTest {
         bags(yard, 3, 240, 0xAAAA, 120, 240);
         bags(yard, 3, 60, 10, 30, 60);
         bags(yard, 3, 29, 0, 0, 0);
+        for (int t = 0; t < 11; t++) yard.top(50, 2, 1, 1, 4);
+        bags(yard, 4, 500, 1023, 150, 500);
+        bags(yard, 4, 499, 511, 135, 450);
+        yard.top(1, 1, 1, 1, 5);
+        bags(yard, 5, 1, 1, 12, 1);
     }
 }

@@ -55,6 +55,8 @@ public final class PastTest {
         due.is(29, "read(3), too short", yard.read(3), 0);
         yard.sheet(3, 0, 3);
         due.is(29, "read(3), a TOP with itself", yard.read(3), 0);
+        yard.put(3, 0, 1, 1);
+        due.is(29, "read(3), just one row", yard.read(3), 1);
     }
 
     private static void worn() {

@@ -124,6 +124,12 @@ public final class TopsTest {
         yard.dent(31, -31, 20);
         due.is(10, "height(32, -31, 1)", yard.height(32, -31, 1), 44);
         due.is(10, "height(31, -32, 2)", yard.height(31, -32, 2), -64 + 20);
+        // Beyond the cells that may have DENTS, none of a cell elsewhere counts.
+        yard.dent(1, -31, 20);
+        yard.dent(-1, 31, 20);
+        due.is(10, "height(0, 32, 0)", yard.height(0, 32, 0), 512);
+        due.is(10, "height(0, -32, 0)", yard.height(0, -32, 0), 512);
+        due.is(10, "height(-32, 31, 0)", yard.height(-32, 31, 0), 992);
         int[][] wrong = {{-33, 0, 0}, {33, 0, 0}, {0, -33, 1}, {0, 33, 2}, {0, 0, -1}, {0, 0, 3}};
         for (int[] a : wrong) due.is(10, "height, wrong", yard.height(a[0], a[1], a[2]), Due.LEAST);
     }
