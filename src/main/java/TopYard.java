@@ -1192,9 +1192,13 @@ public final class TopYard {
         private long total = 1;
         private long determinant = 0;
 
+        /** Pay is cleared here alone: nothing can be paid where there is no row or column yet. */
         void begin() {
             rowCount = 0;
             columnCount = 0;
+            for (int i = 0; i < MOST; i++) {
+                Arrays.fill(pay[i], 0);
+            }
         }
 
         boolean isOpen() {
@@ -1209,9 +1213,6 @@ public final class TopYard {
             if (rowCount >= MOST) {
                 return FULL;
             }
-            for (int j = 0; j < MOST; j++) {
-                pay[rowCount][j] = 0;
-            }
             rowTops[rowCount] = top;
             rowCount++;
             return rowCount;
@@ -1220,9 +1221,6 @@ public final class TopYard {
         int addColumn(int top) {
             if (columnCount >= MOST) {
                 return FULL;
-            }
-            for (int i = 0; i < MOST; i++) {
-                pay[i][columnCount] = 0;
             }
             columnTops[columnCount] = top;
             columnCount++;

@@ -365,10 +365,17 @@ public final class BoutsTest {
             yard.enter(1, 0, 2, 27, 20);
             states(yard, 0, 1, 0, 61, 10, 0, rim == 2 ? -37 : -685, 286, 0, 0);
             states(yard, 1, 1, 0, 62, 28, 0, rim == 2 ? -38 : 610, 210, 0, 0);
-            yard.string(0, 0);
-            due.is(18, "SPIN is 0 at least", yard.state(0, 1, 5), 0);
-            due.is(18, "SPIN is 0 at least", yard.state(1, 1, 5), 0);
         }
+        // Without SPIN they KNOCK once, and fall.
+        TopYard weak = new TopYard();
+        weak.top(10, 12, 3, 1, 0);
+        weak.top(10, 11, 3, 1, 0);
+        weak.string(0, 0);
+        weak.enter(0, 0, 0, 0, 30);
+        weak.enter(1, 3, 0, 18, 30);
+        due.is(17, "knocks(0)", weak.knocks(0), 1);
+        due.is(18, "SPIN is 0 at least", weak.state(0, 1, 5), 0);
+        due.is(18, "SPIN is 0 at least", weak.state(1, 1, 5), 0);
     }
 
     private static void strongStrings() {
