@@ -15,6 +15,9 @@ public final class ChoicesTest {
         expected();
         payIsNew();
         howItIsPut();
+        sharesBelowNothing();
+        leastAndMostSizes();
+        leastAndMostPay();
         due.end();
     }
 
@@ -212,6 +215,46 @@ public final class ChoicesTest {
             due.is(23, "pays(0, 0) of " + seed, yard.pays(0, 0), want);
         }
         due.is(26, "each of 1, -1 came", told[0] > 5 && told[2] > 5 ? 1 : 0, 1);
+    }
+
+    /** Parts that come first and hold, but for a share below 0. */
+    private static void sharesBelowNothing() {
+        // Rows 0 and 2, columns 0 and 1 would have shares -1/2, 3/2 of rows.
+        mixes("a row's", game(new int[][] {{2, -1}, {-1, 2}, {2, 1}}), 1250000, new int[] {0, 250000, 750000}, new int[] {250000, 750000});
+        // Columns 0 and 2 would have shares -1, 2.
+        mixes("a column's", game(new int[][] {{1, -1, 0}, {-1, 0, -1}}), -500000,
+            new int[] {500000, 500000}, new int[] {0, 500000, 500000});
+        // Rows 0 and 1, columns 1 and 2 would have shares 2, -1 of rows.
+        mixes("the first row's", game(new int[][] {{0, 1, 1}, {-1, 1, 0}, {1, 0, 0}}), 500000,
+            new int[] {500000, 0, 500000}, new int[] {500000, 500000, 0});
+    }
+
+    private static void leastAndMostSizes() {
+        mixes("1 by 1", game(new int[][] {{0}}), 0, new int[] {1000000}, new int[] {1000000});
+        mixes("1 by 4", game(new int[][] {{3, 2, 5, 2}}), 2000000, new int[] {1000000}, new int[] {0, 1000000, 0, 0});
+        mixes("4 by 1", game(new int[][] {{3}, {5}, {2}, {5}}), 5000000, new int[] {0, 1000000, 0, 0}, new int[] {1000000});
+        // The last row and the last column alone.
+        mixes("4 by 4", game(new int[][] {{0, 0, 0, -1}, {0, 0, 0, -1}, {0, 0, 0, -1}, {2, 2, 2, 1}}), 1000000,
+            new int[] {0, 0, 0, 1000000}, new int[] {0, 0, 0, 1000000});
+        TopYard yard = game(new int[][] {{0, 0, 0, 0}, {0, 0, 0, 0}, {0, 0, 0, 0}, {0, 0, 0, 0}});
+        due.is(21, "pay(3, 3, 1)", yard.pay(3, 3, 1), 0);
+        due.is(21, "pay(4, 3, 1)", yard.pay(4, 3, 1), -100);
+        due.is(21, "pay(3, 4, 1)", yard.pay(3, 4, 1), -100);
+        due.is(22, "pays(4, 3)", yard.pays(4, 3), -100);
+        due.is(22, "pays(3, 4)", yard.pays(3, 4), -100);
+        due.is(25, "mix(0, 4)", yard.mix(0, 4), Due.BAD);
+        due.is(25, "mix(1, 4)", yard.mix(1, 4), Due.BAD);
+        due.is(23, "fill() of 16, each with others", yard.fill(), 0);
+    }
+
+    private static void leastAndMostPay() {
+        mixes("least", game(new int[][] {{-9}}), -9000000, new int[] {1000000}, new int[] {1000000});
+        mixes("most", game(new int[][] {{9}}), 9000000, new int[] {1000000}, new int[] {1000000});
+        int[] fourths = {250000, 250000, 250000, 250000};
+        mixes("least and most", game(new int[][] {{9, -9, -9, -9}, {-9, 9, -9, -9}, {-9, -9, 9, -9}, {-9, -9, -9, 9}}), -4500000,
+            fourths, fourths);
+        mixes("most and least", game(new int[][] {{-9, 9, 9, 9}, {9, -9, 9, 9}, {9, 9, -9, 9}, {9, 9, 9, -9}}), 4500000,
+            fourths, fourths);
     }
 
     private static void expected() {

@@ -12,6 +12,10 @@ public final class GamesTest {
         turns();
         keeping();
         topsInRings();
+        leastAndMostBouts();
+        stringsAtTheirEnds();
+        fewerToKeep();
+        edgeOfRing();
         due.end();
     }
 
@@ -206,6 +210,101 @@ public final class GamesTest {
         due.is(36, "play(0, 1), nobody wins", draw.play(0, 1), Due.NONE);
         playedIs(draw, 5, 0, 0, 0);
         owners(draw, 0, 1, 0, 1, 0, 1, 0, 1);
+    }
+
+    private static void leastAndMostBouts() {
+        String[] texts = {"t1;b1", "t1;b20", "t1;b20;w9", "t1"};
+        int[] bouts = {1, 20, 20, 5};
+        for (int k = 0; k < texts.length; k++) {
+            TopYard yard = keepers();
+            Due.type(yard, texts[k]);
+            due.is(36, "play(0, 1), nobody wins, " + texts[k], yard.play(0, 1), Due.NONE);
+            playedIs(yard, bouts[k], 0, 0, 0);
+            due.is(36, "STRENGTH of 0", yard.string(0, 1), 100 - bouts[k]);
+            due.is(36, "STRENGTH of 1", yard.string(1, 1), 100 - bouts[k]);
+        }
+        String[] won = {"t2;w1;b20", "t2;w2;b20", "t2;w9;b20", "t2;w9;b9", "t2;w9;b8", "t2;w2;b1", "t60;w9;b20"};
+        int[] wins = {1, 2, 9, 9, 8, 1, 9};
+        for (int k = 0; k < won.length; k++) {
+            TopYard yard = keepers();
+            Due.type(yard, won[k]);
+            due.is(36, "play(0, 1), " + won[k], yard.play(0, 1), 0);
+            playedIs(yard, wins[k], wins[k], 0, 0);
+        }
+    }
+
+    private static void stringsAtTheirEnds() {
+        TopYard yard = keepers();
+        yard.string(0, 200);
+        yard.string(1, 1);
+        Due.type(yard, "t1;b2");
+        // With SPIN 10, or 0, all FALL in TICK 1.
+        due.is(36, "play(0, 1)", yard.play(0, 1), Due.NONE);
+        due.is(36, "STRENGTH of 0, which was 200", yard.string(0, 0), 198);
+        due.is(36, "STRENGTH of 1, which was 1", yard.string(1, 0), 0);
+        due.is(36, "play(0, 1)", yard.play(0, 1), Due.NONE);
+        due.is(36, "STRENGTH of 0, which was 0", yard.string(0, 2), 0);
+        due.is(36, "STRENGTH of 1, which was 0", yard.string(1, 2), 0);
+    }
+
+    /** k n is the most that is kept: all are, if the other one has fewer. */
+    private static void fewerToKeep() {
+        for (int k = 0; k <= 3; k++) {
+            for (int has = 1; has <= 5; has++) {
+                TopYard yard = new TopYard();
+                // TOP 0 is the loser's, the last one is the winner's.
+                for (int t = 0; t < has; t++) {
+                    yard.top(16, 1, 1, 1, 3);
+                    yard.wear(t, 9);
+                }
+                yard.top(16, 1, 1, 1, 5);
+                Due.type(yard, "t2;k" + k);
+                boolean second = has % 2 == 0;
+                due.is(36, "play of 3 and 5", second ? yard.play(3, 5) : yard.play(5, 3), 5);
+                int kept = Math.min(k, has);
+                playedIs(yard, 1, second ? 0 : 1, second ? 1 : 0, kept);
+                for (int t = 0; t <= has; t++) due.is(36, "OWNER of " + t, yard.about(t, 4), t < kept || t == has ? 5 : 3);
+                // A GAME that nobody wins tells of no kept ones.
+                yard.wipe();
+                Due.type(yard, "t1;k3;b1");
+                int answer = yard.play(3, 5);
+                due.is(36, "play(3, 5), nobody wins", answer, kept == has ? Due.NOT : Due.NONE);
+                due.is(37, "played(3)", yard.played(3), kept == has ? kept : 0);
+            }
+        }
+    }
+
+    /** p's FALLS at -25, 60, which is 65 from the middle, or with another DENT at -25, 61 or so. */
+    private static void edgeOfRing() {
+        for (int more = 0; more < 2; more++) {
+            TopYard yard = new TopYard();
+            yard.bowl(0, 5);
+            yard.top(1, 1, 1, 1, 0);
+            yard.top(1, 1, 1, 1, 1);
+            yard.string(0, 0);
+            yard.string(1, 0);
+            yard.dent(-1, 0, -20);
+            yard.dent(-1, 0, -20);
+            yard.dent(-1, 0, -12);
+            yard.dent(-2, 1, 1 - more);
+            yard.bowl(1, 1);
+            yard.enter(0, -2, 0, 9, 30);
+            yard.enter(1, 2, 0, 27, 30);
+            due.is(18, "X of p's", yard.state(0, 1, 0), -25);
+            due.is(18, "Y of p's", yard.state(0, 1, 1), more == 0 ? 60 : 61);
+            due.is(18, "how p's is", yard.state(0, 1, 7), more == 0 ? 3 : 2);
+            due.is(18, "how q's is", yard.state(1, 1, 7), 2);
+            Due.type(yard, "r1");
+            due.is(36, "play(0, 1)", yard.play(0, 1), more == 0 ? 0 : Due.NONE);
+            playedIs(yard, more == 0 ? 1 : 5, 1 - more, 0, 0);
+            yard.wipe();
+            Due.type(yard, "r2");
+            // q's at 122, -61 is more than 130 from the middle; p's is less, either way.
+            due.is(36, "play(0, 1) with r 2", yard.play(0, 1), 0);
+            yard.wipe();
+            Due.type(yard, "r3");
+            due.is(36, "play(0, 1) with r 3", yard.play(0, 1), Due.NONE);
+        }
     }
 
     /** p has TOPS 0, 2, 4 of WEAR 0, 3, 1; q has 1, 3 of WEAR 1, 2. */

@@ -7,6 +7,7 @@ public final class MeetingsTest {
         pairing();
         allMeetEvenOften();
         deepPairing();
+        squaresOfMetAndOne();
         pairingRefusals();
         bag();
         bagTies();
@@ -118,6 +119,33 @@ public final class MeetingsTest {
         // 0 2, 1 3: 1, 4, 9, 9. 0 3, 1 2: 1, 1, 9, 9.
         pairs(yard, 255, 0, 3, 1, 2, 4, 6, 5, 7);
         pairs(yard, 255 - 8 - 4, 0, 4, 1, 5, 6, 7);
+    }
+
+    private static void meet(TopYard yard, int p, int q, int times) {
+        for (int n = 0; n < times; n++) yard.play(p, q);
+    }
+
+    /** It is MET and 1 that is squared, not MET, nor MET and 2. */
+    private static void squaresOfMetAndOne() {
+        TopYard yard = eight();
+        meet(yard, 0, 1, 3);
+        meet(yard, 0, 2, 2);
+        meet(yard, 1, 3, 2);
+        meet(yard, 0, 3, 9);
+        // 16 and 1 to 9 and 9; 9 and 0 would be more than 4 and 4.
+        pairs(yard, 15, 0, 1, 2, 3);
+        meet(yard, 0, 1, 1);
+        meet(yard, 0, 2, 1);
+        // 25 and 1 to 16 and 9; 36 and 4 would be less than 25 and 16.
+        pairs(yard, 15, 0, 2, 1, 3);
+        // As often as an object's calls allow.
+        TopYard often = eight();
+        meet(often, 4, 5, 150);
+        meet(often, 4, 6, 150);
+        pairs(often, 240, 4, 7, 5, 6);
+        meet(often, 4, 7, 150);
+        pairs(often, 240, 4, 5, 6, 7);
+        due.is(38, "met(4, 7)", often.met(4, 7), 150);
     }
 
     private static void pairingRefusals() {

@@ -9,6 +9,9 @@ public final class PastTest {
         doubtOfMany();
         most();
         explained();
+        mostWearExplains();
+        roundedDown();
+        readStops();
         due.end();
     }
 
@@ -123,6 +126,75 @@ public final class PastTest {
         yard.wear(0, 1);
         yard.was(0, 1, -1);
         due.is(31, "most(), CHANCES above 0", yard.most(), 1);
+    }
+
+    /** 0 begins with SPIN 50: with WEAR 9 it FALLS behind TICK 4, with 4 to 8 behind 5, as 1 does. */
+    private static void mostWearExplains() {
+        TopYard yard = new TopYard();
+        yard.top(16, 1, 7, 1, 0);
+        yard.top(16, 1, 1, 1, 1);
+        yard.string(0, 5);
+        yard.string(1, 2);
+        yard.was(0, 1, -1);
+        due.is(32, "explained(0, 0), by the most alone", yard.explained(0, 0), 9);
+        due.is(32, "explained(0, 1), by the most alone", yard.explained(0, 1), 1);
+        yard.was(1, 0, 0);
+        due.is(32, "explained(0, 0), of like ones the least", yard.explained(0, 0), 4);
+        due.is(32, "explained(0, 1), of like ones the least", yard.explained(0, 1), 1);
+        yard.was(0, 1, 1);
+        due.is(32, "explained(0, 0), of like ones the least", yard.explained(0, 0), 0);
+        yard.forget();
+        yard.was(0, 1, 2);
+        due.is(32, "explained(0, 0), all LOST", yard.explained(0, 0), 0);
+        due.is(32, "explained(0, 1), all LOST", yard.explained(0, 1), 0);
+        yard.forget();
+        for (int n = 0; n < 40; n++) yard.was(0, 1, -1);
+        due.is(32, "explained(0, 0), as many rows as there may be", yard.explained(0, 0), 9);
+        due.is(32, "explained(0, 1), as many rows as there may be", yard.explained(0, 1), 40);
+    }
+
+    /** DOUBT where each of n CHANCES was a SURPRISE: 1 of 2 to the n ways. */
+    private static void roundedDown() {
+        int[][] rows = {{1, 500000}, {6, 15625}, {7, 7812}, {10, 976}, {19, 1}, {20, 0}, {40, 0}};
+        for (int[] row : rows) {
+            TopYard yard = Due.weakYard();
+            for (int n = 0; n < row[0]; n++) yard.was(0, 1, -1);
+            due.is(30, "worn(0, 0) of " + row[0], yard.worn(0, 0), row[0]);
+            due.is(30, "worn(0, 2) of " + row[0], yard.worn(0, 2), row[1]);
+            due.is(30, "worn(1, 0) of " + row[0], yard.worn(1, 0), 0);
+            due.is(30, "worn(1, 1) of " + row[0], yard.worn(1, 1), row[0]);
+            due.is(30, "worn(1, 2) of " + row[0], yard.worn(1, 2), 1000000);
+            due.is(31, "most() of " + row[0], yard.most(), 0);
+        }
+    }
+
+    /** A row that may not be ends the reading, though good ones follow. */
+    private static void readStops() {
+        int[][] wrong = {{0, 0, 1}, {0, 2, 1}, {2, 0, 1}, {-1, 1, 1}, {1, -1, 1}, {0, 1, 3}, {0, 1, -2}, {40, 1, 0}};
+        for (int[] row : wrong) {
+            TopYard yard = Due.weakYard();
+            yard.sheet(0, 0, 12);
+            put(yard, 0, 0, 0, 1, 2, 1, 0, -1, row[0], row[1], row[2], 0, 1, 1);
+            due.is(29, "read(0) with " + java.util.Arrays.toString(row), yard.read(0), 2);
+            due.is(29, "count(6)", yard.count(6), 2);
+            due.is(29, "count(8)", yard.count(8), 0);
+        }
+        int[] lengths = {0, 1, 2, 3, 4, 5, 6};
+        for (int length : lengths) {
+            TopYard yard = Due.weakYard();
+            yard.sheet(0, 2, length);
+            for (int i = 1; i < length; i += 3) yard.put(0, 2, i, 1);
+            due.is(29, "read(0) of " + length + " items", yard.read(0), length / 3);
+            due.is(29, "count(6)", yard.count(6), length / 3);
+        }
+        TopYard nearly = Due.weakYard();
+        for (int n = 0; n < 39; n++) nearly.was(0, 1, 0);
+        nearly.sheet(0, 1, 6);
+        put(nearly, 0, 1, 0, 1, -1, 0, 1, -1);
+        due.is(29, "read(0) with room for one", nearly.read(0), 1);
+        due.is(29, "read(0) with room for none", nearly.read(0), 0);
+        due.is(29, "count(6)", nearly.count(6), 40);
+        due.is(29, "worn(0, 0)", nearly.worn(0, 0), 1);
     }
 
     private static void explained() {

@@ -10,9 +10,12 @@ public final class SheetsTest {
         copy();
         copyWithinOne();
         write();
+        writeToTheEnd();
+        emptyAndFull();
         count();
         digestOfNew();
         digestOfUsed();
+        digestOfOwnersAndWears();
         due.end();
     }
 
@@ -150,6 +153,63 @@ public final class SheetsTest {
         due.is(46, "write(2, 400)", yard.write(2, 400), 0);
     }
 
+    /** Four PLACES are 32 items: sheets that are just too short, right, and too long. */
+    private static void writeToTheEnd() {
+        for (int places = 2; places <= 4; places++) {
+            for (int form = 0; form < 3; form++) {
+                for (int more = -9; more <= 1; more += 1) {
+                    int length = 8 * places + more;
+                    TopYard yard = new TopYard();
+                    for (int t = 0; t < places; t++) {
+                        yard.top(10 + 9 * t, 1, 1, 1, t);
+                        yard.wear(t, 9);
+                        yard.enter(t, 3 * t - 4, 5 - 3 * t, 9 * t, 30);
+                    }
+                    yard.string(0, 1);
+                    yard.sheet(0, form, length);
+                    for (int i = 0; i < length; i++) yard.put(0, form, i, 77);
+                    int told = Math.min(length, 8 * places);
+                    due.is(46, "write(0, 1) to " + length + " items", yard.write(0, 1), told);
+                    for (int i = 0; i < length; i++) {
+                        int state = i < told ? yard.state(i / 8, 1, i % 8) : 77;
+                        int want = form == 0 ? (byte) state : form == 1 ? (short) state : state;
+                        due.is(46, "item " + i + " of " + length, yard.get(0, form, i), want);
+                    }
+                    due.is(46, "0 has FALLEN with LEAN 5", yard.state(0, 1, 7) * 10 + yard.state(0, 1, 6), 25);
+                }
+            }
+        }
+    }
+
+    private static void emptyAndFull() {
+        TopYard yard = new TopYard();
+        for (int form = 0; form < 3; form++) {
+            due.is(41, "sheet(0, form, 0)", yard.sheet(0, form, 0), 0);
+            due.is(44, "get(0, form, 0) of none", yard.get(0, form, 0), Due.LEAST);
+            due.is(45, "copy of none", yard.copy(0, 0, 0, 0, 0), 1);
+            due.is(45, "copy of one of none", yard.copy(0, 0, 0, 0, 1), -12);
+            due.is(29, "read(0) of none", yard.read(0), 0);
+            due.is(42, "lose(0) of none", yard.lose(0), 0);
+            due.is(41, "sheet(0, form, 120)", yard.sheet(0, form, 120), 120);
+            due.is(43, "put(0, form, 119, 5)", yard.put(0, form, 119, 5), 1);
+            due.is(43, "put(0, form, 120, 5)", yard.put(0, form, 120, 5), -12);
+            due.is(44, "get(0, form, 119)", yard.get(0, form, 119), 5);
+            due.is(44, "get(0, form, 120)", yard.get(0, form, 120), Due.LEAST);
+            due.is(45, "copy of 119", yard.copy(0, 1, 0, 0, 119), 1);
+            due.is(44, "get(0, form, 118)", yard.get(0, form, 118), 5);
+            due.is(45, "copy of 120", yard.copy(0, 0, 0, 0, 120), 1);
+            due.is(45, "copy of 121", yard.copy(0, 0, 0, 0, 121), -12);
+            // A new row is 0 all over, however long the one before was.
+            due.is(41, "sheet(0, form, 5)", yard.sheet(0, form, 5), 5);
+            due.is(41, "sheet(0, form, 120)", yard.sheet(0, form, 120), 120);
+            for (int i = 115; i < 120; i++) due.is(44, "get(0, form, " + i + ")", yard.get(0, form, i), 0);
+            yard.put(0, form, 119, 5);
+            due.is(42, "lose(0) of 120", yard.lose(0), 120);
+            yard.sheet(0, form, 120);
+            due.is(44, "get(0, form, 119) anew", yard.get(0, form, 119), 0);
+        }
+    }
+
     private static void count() {
         TopYard yard = Due.weakYard();
         yard.top(1, 1, 1, 1, 0);
@@ -173,6 +233,37 @@ public final class SheetsTest {
         long h = 17;
         for (long v : told) h = 31 * h + v;
         return h;
+    }
+
+    /** OWNER, then WEAR of each TOP; STRENGTHS by OWNERS; MET of pairs in order. */
+    private static void digestOfOwnersAndWears() {
+        TopYard yard = new TopYard();
+        long[] told = new long[10 + 2 * 3 + 8 + 3 + 28];
+        for (int t = 0; t < 3; t++) {
+            yard.top(9, 3, 3, 1, 7 - t);
+            yard.wear(t, 2 + 3 * t);
+            told[10 + 2 * t] = 7 - t;
+            told[11 + 2 * t] = 2 + 3 * t;
+        }
+        Due.type(yard, "b1;t1");
+        yard.play(5, 7);
+        yard.play(6, 7);
+        yard.play(6, 7);
+        for (int owner = 0; owner < 8; owner++) {
+            yard.string(owner, 11 * owner);
+            told[16 + owner] = 11 * owner;
+        }
+        told[0] = 3;
+        told[7] = 5;
+        told[8] = 12;
+        told[9] = 4;
+        told[24] = -3;
+        told[25] = -3;
+        told[26] = Due.LEAST;
+        // The last pairs are 5 6, 5 7, 6 7.
+        told[27 + 26] = 1;
+        told[27 + 27] = 2;
+        due.is(48, "digest()", yard.digest(), digestOf(told));
     }
 
     private static void digestOfNew() {
