@@ -13,9 +13,12 @@ public final class BoutEdgesTest {
         edgeOfBowlAslant();
         edgeOfRingAslant();
         reachOfRims();
+        reachOfUnlikeRims();
         nearlyNoApproach();
+        lockOfUnlikeWeights();
         spinThatGoesOver();
         spinBehindKnocks();
+        outOnesDoNotFall();
         outOnesDoNotKnock();
         fallenOnesDoNotKnock();
         pairsInOrder();
@@ -198,6 +201,34 @@ public final class BoutEdgesTest {
         due.is(18, "SPIN with wider RIMS", wide.state(0, 1, 5), 298);
     }
 
+    private static void reachOfUnlikeRims() {
+        // As above, with SLOPE -17: -65 and 34 is -31, and 1: X 100, which is 39 or 40 from the other one.
+        String[] dents = {"dent 3 0 -20; dent 3 0 -1", "dent 3 0 -20; dent 1 0 1"};
+        int[][] rims = {{1, 1, 26}, {1, 2, 39}, {2, 1, 39}, {2, 2, 52}, {1, 3, 52}};
+        for (int[] rim : rims) {
+            for (int k = 0; k < 2; k++) {
+                TopYard yard = yard("top 1 " + rim[0] + " 1 1 0; top 1 " + rim[1] + " 1 1 1; enter 0 0 0 0 30; enter 1 2 0 18 30; " + dents[k]);
+                due.is(18, "how far apart", yard.state(1, 1, 0) - yard.state(0, 1, 0), 39 + k);
+                due.is(18, "SPIN with RIMS " + rim[0] + ", " + rim[1], yard.state(0, 1, 5), rim[2] >= 39 + k ? 298 : 299);
+            }
+        }
+    }
+
+    private static void lockOfUnlikeWeights() {
+        // The other one comes with P -2190 and 136, or -511 and 31: together -1444 by 10 of 40, or 130 by 10 of 17.
+        int[][] rows = {{30, -361, -1083}, {7, 76, 54}};
+        for (int[] row : rows) {
+            for (int axis = 0; axis < 2; axis++) {
+                TopYard yard = yard("top 10 2 3 1 0; top " + row[0] + " 2 3 1 0; enter 0 0 0 " + 9 * axis + " 30");
+                yard.enter(1, 2 - 2 * axis, 2 * axis, 18 + 9 * axis, 30);
+                due.is(18, "P or Q of 0, WEIGHT " + row[0], yard.state(0, 1, 3 + axis), row[1]);
+                due.is(18, "P or Q of 1, WEIGHT " + row[0], yard.state(1, 1, 3 + axis), row[2]);
+                due.is(18, "the other of 0", yard.state(0, 1, 4 - axis), 0);
+                due.is(18, "the other of 1", yard.state(1, 1, 4 - axis), 0);
+            }
+        }
+    }
+
     private static void nearlyNoApproach() {
         // WEIGHTS 1, 2. P 57, 98, Q 24, -81; dx -8, dy 1: K is 128 less 129.
         String made = "top 1 1 1 1 0; top 2 2 1 1 1; ";
@@ -243,6 +274,18 @@ public final class BoutEdgesTest {
             due.is(18, "SPIN of 1 by " + java.util.Arrays.toString(row), yard.state(1, 1, 5), row[2]);
             due.is(17, "knocks(0)", yard.knocks(0), 1);
         }
+    }
+
+    private static void outOnesDoNotFall() {
+        // Without SPIN, or with LEAN 8 and more, what is OUT is OUT: step f comes ahead of step h.
+        TopYard yard = yard("bowl 0 5; bowl 1 30; top 10 1 1 1 0; top 10 1 1 1 1; string 0 0; enter 0 5 0 0 30; enter 1 0 0 0 30");
+        due.is(18, "how it is", yard.state(0, 1, 7), 1);
+        due.is(18, "its SPIN", yard.state(0, 1, 5), 0);
+        due.is(18, "how it is behind the end", yard.state(0, 400, 7), 1);
+        due.is(16, "winner()", yard.winner(), 1);
+        TopYard three = yard("bowl 0 5; bowl 1 30; top 10 1 1 1 0; top 10 1 1 1 1; top 10 1 1 1 2; string 0 0; enter 0 5 0 0 30; "
+            + "enter 1 0 0 0 30; enter 2 0 -3 0 30");
+        due.is(18, "how it is in later TICKS", three.state(0, 3, 7), 1);
     }
 
     private static void outOnesDoNotKnock() {

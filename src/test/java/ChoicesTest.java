@@ -18,6 +18,8 @@ public final class ChoicesTest {
         sharesBelowNothing();
         leastAndMostSizes();
         leastAndMostPay();
+        notSquare();
+        oneWithItself();
         due.end();
     }
 
@@ -245,6 +247,45 @@ public final class ChoicesTest {
         due.is(25, "mix(0, 4)", yard.mix(0, 4), Due.BAD);
         due.is(25, "mix(1, 4)", yard.mix(1, 4), Due.BAD);
         due.is(23, "fill() of 16, each with others", yard.fill(), 0);
+    }
+
+    /** More COLUMNS than ROWS, and the other way round. */
+    private static void notSquare() {
+        for (int rows = 1; rows <= 3; rows++) {
+            for (int columns = 1; columns <= 3; columns++) {
+                TopYard yard = Due.weakYard();
+                yard.top(16, 1, 1, 1, 1);
+                yard.wear(1, 1);
+                yard.wear(2, 3);
+                for (int t = 0; t < rows; t++) yard.among(0, t);
+                for (int t = 0; t < columns; t++) yard.among(1, t);
+                due.is(23, "fill() of " + rows + " by " + columns, yard.fill(), rows * columns - Math.min(rows, columns));
+                for (int i = 0; i < rows; i++) {
+                    for (int j = 0; j < columns; j++) due.is(23, "pays(" + i + ", " + j + ")", yard.pays(i, j), Integer.compare(j, i));
+                }
+                due.is(19, "choose() of " + rows + " by " + columns, yard.choose(), rows + columns);
+                due.is(19, "choose() again", yard.choose(), 0);
+            }
+        }
+    }
+
+    /** Where the column's TOP is thrown OUT in TICK 1, the row's always wins, but not over itself. */
+    private static void oneWithItself() {
+        TopYard yard = new TopYard();
+        yard.bowl(0, 5);
+        for (int t = 0; t < 2; t++) yard.top(1, 1, 1, 1, 0);
+        for (int n = 0; n < 6; n++) yard.dent(3, 0, -20);
+        for (int t = 0; t < 2; t++) {
+            yard.among(0, t);
+            yard.among(1, t);
+        }
+        due.is(23, "fill()", yard.fill(), 2);
+        for (int i = 0; i < 2; i++) {
+            for (int j = 0; j < 2; j++) {
+                due.is(26, "expected(" + i + ", " + j + ")", yard.expected(i, j), i == j ? 0 : 1);
+                due.is(23, "pays(" + i + ", " + j + ")", yard.pays(i, j), i == j ? 0 : 1);
+            }
+        }
     }
 
     private static void leastAndMostPay() {

@@ -16,6 +16,9 @@ public final class GamesTest {
         stringsAtTheirEnds();
         fewerToKeep();
         edgeOfRing();
+        fallenInTheMiddle();
+        allBytes();
+        latestPlay();
         due.end();
     }
 
@@ -305,6 +308,87 @@ public final class GamesTest {
             Due.type(yard, "r3");
             due.is(36, "play(0, 1) with r 3", yard.play(0, 1), Due.NONE);
         }
+    }
+
+    /** p's FALLS at 0, 0, within any RING; but without r no one wins so. */
+    private static void fallenInTheMiddle() {
+        String[] texts = {"r0", "r1", "w1", "b1;t30"};
+        int[] winners = {0, 0, Due.NONE, Due.NONE};
+        for (int k = 0; k < texts.length; k++) {
+            TopYard yard = new TopYard();
+            yard.bowl(0, 5);
+            yard.bowl(1, 3 * k);
+            yard.top(50, 1, 1, 1, 0);
+            yard.top(50, 1, 1, 1, 1);
+            yard.string(0, 0);
+            yard.string(1, 0);
+            // SLOPES -70, 33: P 7000 less 19 less a 16th by 50 is 130, Q 3250 less 3300 and 46 by 50 is 0.
+            for (int higher : new int[] {-20, -20, -20, -6}) yard.dent(-1, 0, higher);
+            for (int higher : new int[] {20, 13}) yard.dent(-2, 1, higher);
+            yard.enter(0, -2, 0, 9, 30);
+            yard.enter(1, 2, 0, 27, 30);
+            due.is(18, "X of p's", yard.state(0, 1, 0), 0);
+            due.is(18, "Y of p's", yard.state(0, 1, 1), 0);
+            due.is(18, "how p's is", yard.state(0, 1, 7), 3);
+            Due.type(yard, texts[k]);
+            due.is(36, "play(0, 1) with " + texts[k], yard.play(0, 1), winners[k]);
+            due.is(36, "count(10)", yard.count(10), 3 * k);
+            due.is(26, "expected(0, 1)", yard.expected(0, 1), 0);
+        }
+    }
+
+    /** Each byte as a letter, as the first figure, as the second, and behind a number. */
+    private static void allBytes() {
+        for (int b = 0; b < 256; b++) {
+            boolean figure = b >= 48 && b <= 57;
+            String one = Character.toString((char) b);
+            faultOf(one, "wbrtk".contains(one) ? 1 : 0);
+            faultOf("b" + one, figure && b > 48 ? Due.NONE : 1);
+            faultOf("r" + one, figure ? Due.NONE : 1);
+            faultOf("b1" + one, figure ? Due.NONE : b == ';' ? 3 : 2);
+            faultOf("t6" + one, figure ? b == 48 ? Due.NONE : 1 : b == ';' ? 3 : 2);
+            faultOf("b11" + one, b == ';' ? 4 : 3);
+            faultOf("b11;" + one, "wrtk".contains(one) ? 5 : 4);
+            faultOf("b1;k" + one, figure && b < 52 ? Due.NONE : 4);
+        }
+        // All numbers of one and two figures of each letter.
+        int[] least = {1, 1, 0, 1, 0};
+        int[] most = {9, 20, 30, 60, 3};
+        for (int letter = 0; letter < 5; letter++) {
+            for (int n = 0; n < 100; n++) {
+                int want = n >= least[letter] && n <= most[letter] ? Due.NONE : 1;
+                faultOf("wbrtk".charAt(letter) + Integer.toString(n), want);
+                if (n < 10) faultOf("wbrtk".charAt(letter) + "0" + n, want);
+            }
+            // A letter that came before, wherever it came.
+            String first = "wbrtk".charAt(letter) + "1";
+            for (int other = 0; other < 5; other++) {
+                faultOf(first + ";" + "wbrtk".charAt(other) + "1", other == letter ? 3 : Due.NONE);
+            }
+        }
+        faultOf("w1;b1;r1;t1;k1;" + "x".repeat(25), 15);
+        faultOf("w".repeat(40), 1);
+        faultOf("b1;" + "b".repeat(37), 3);
+    }
+
+    /** played() is of the latest that told a winner or NONE; refused ones leave it. */
+    private static void latestPlay() {
+        TopYard yard = keepers();
+        Due.type(yard, "t2;k2");
+        due.is(36, "play(1, 0)", yard.play(1, 0), 0);
+        playedIs(yard, 1, 0, 1, 2);
+        due.is(36, "play(0, 0)", yard.play(0, 0), Due.BAD);
+        due.is(36, "play(0, 7)", yard.play(0, 7), Due.NOT);
+        playedIs(yard, 1, 0, 1, 2);
+        due.is(38, "met(0, 7)", yard.met(0, 7), 0);
+        yard.wipe();
+        due.is(36, "play(0, 1) of an empty one", yard.play(0, 1), Due.NOT);
+        playedIs(yard, 1, 0, 1, 2);
+        due.is(38, "met(0, 1)", yard.met(0, 1), 1);
+        Due.type(yard, "t1;k2;b3");
+        due.is(36, "play(0, 1)", yard.play(0, 1), Due.NONE);
+        playedIs(yard, 3, 0, 0, 0);
+        due.is(38, "met(0, 1)", yard.met(0, 1), 2);
     }
 
     /** p has TOPS 0, 2, 4 of WEAR 0, 3, 1; q has 1, 3 of WEAR 1, 2. */

@@ -8,6 +8,7 @@ public final class MeetingsTest {
         allMeetEvenOften();
         deepPairing();
         squaresOfMetAndOne();
+        theLastPairCounts();
         pairingRefusals();
         bag();
         bagTies();
@@ -146,6 +147,28 @@ public final class MeetingsTest {
         meet(often, 4, 7, 150);
         pairs(often, 240, 4, 5, 6, 7);
         due.is(38, "met(4, 7)", often.met(4, 7), 150);
+    }
+
+    /** The pair that is left over at the end counts as the others do, in sets of every size. */
+    private static void theLastPairCounts() {
+        TopYard yard = eight();
+        meet(yard, 6, 7, 3);
+        pairs(yard, 192, 6, 7);
+        pairs(yard, 240, 4, 6, 5, 7);
+        pairs(yard, 252, 2, 3, 4, 6, 5, 7);
+        pairs(yard, 255, 0, 1, 2, 3, 4, 6, 5, 7);
+        pairs(yard, 195, 0, 6, 1, 7);
+        meet(yard, 5, 7, 2);
+        meet(yard, 5, 6, 2);
+        // 4 6, 5 7: 1 and 9; 4 5, 6 7: 1 and 16. With 2, 3 too: 2 3 and these are 11, 2 5, 3 6, 4 7 are 3.
+        pairs(yard, 240, 4, 6, 5, 7);
+        pairs(yard, 252, 2, 5, 3, 6, 4, 7);
+        pairs(yard, 255, 0, 1, 2, 5, 3, 6, 4, 7);
+        meet(yard, 2, 5, 1);
+        meet(yard, 3, 5, 1);
+        meet(yard, 4, 5, 1);
+        // 5 has met all but 0 and 1: with 0 1 the sum is 7 or more, with 0 2, 1 5 it is 4.
+        pairs(yard, 255, 0, 2, 1, 5, 3, 6, 4, 7);
     }
 
     private static void pairingRefusals() {

@@ -12,6 +12,8 @@ public final class PastTest {
         mostWearExplains();
         roundedDown();
         readStops();
+        readRows();
+        lostRowsFirst();
         due.end();
     }
 
@@ -195,6 +197,39 @@ public final class PastTest {
         due.is(29, "read(0) with room for none", nearly.read(0), 0);
         due.is(29, "count(6)", nearly.count(6), 40);
         due.is(29, "worn(0, 0)", nearly.worn(0, 0), 1);
+    }
+
+    /** What is read is as what is told by was(). */
+    private static void readRows() {
+        TopYard yard = Due.weakYard();
+        yard.top(16, 1, 1, 1, 1);
+        yard.wear(2, 1);
+        yard.sheet(3, 0, 6);
+        put(yard, 3, 0, 0, 2, -1, 2, 1, 0);
+        due.is(29, "read(3)", yard.read(3), 2);
+        // EXPECTED of 0, 2 is 1, of 2, 1 it is -1.
+        int[][] want = {{1, 1, 500000}, {1, 1, 500000}, {0, 0, 1000000}};
+        for (int t = 0; t < 3; t++) {
+            for (int what = 0; what < 3; what++) due.is(29, "worn(" + t + ", " + what + ")", yard.worn(t, what), want[t][what]);
+        }
+    }
+
+    /** A LOST row tells nothing, not even to a later one of the same TOPS. */
+    private static void lostRowsFirst() {
+        TopYard yard = Due.weakYard();
+        yard.wear(0, 1);
+        yard.was(0, 1, 2);
+        yard.was(1, 0, 2);
+        yard.was(0, 1, -1);
+        yard.was(1, 0, 0);
+        // EXPECTED of 0, 1 is -1: 0 cannot do worse; 1 did once.
+        int[][] want = {{0, 0, 1000000}, {1, 2, 750000}};
+        for (int t = 0; t < 2; t++) {
+            for (int what = 0; what < 3; what++) due.is(30, "worn(" + t + ", " + what + ")", yard.worn(t, what), want[t][what]);
+        }
+        due.is(31, "most()", yard.most(), 1);
+        due.is(32, "explained(0, 0)", yard.explained(0, 0), 0);
+        due.is(32, "explained(0, 1)", yard.explained(0, 1), 1);
     }
 
     private static void explained() {

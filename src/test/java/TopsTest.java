@@ -12,6 +12,7 @@ public final class TopsTest {
         dents();
         height();
         string();
+        lastCall();
         due.end();
     }
 
@@ -132,6 +133,14 @@ public final class TopsTest {
         due.is(10, "height(-32, 31, 0)", yard.height(-32, 31, 0), 992);
         int[][] wrong = {{-33, 0, 0}, {33, 0, 0}, {0, -33, 1}, {0, 33, 2}, {0, 0, -1}, {0, 0, 3}};
         for (int[] a : wrong) due.is(10, "height, wrong", yard.height(a[0], a[1], a[2]), Due.LEAST);
+    }
+
+    /** An object is good for 512 calls. */
+    private static void lastCall() {
+        TopYard yard = new TopYard();
+        yard.top(7, 3, 5, -1, 6);
+        for (int n = 2; n < 512; n++) due.is(2, "call " + n, yard.turn(n % 36, 0), new TopYard().turn(n % 36, 0));
+        due.is(5, "call 512", yard.wear(0, 3), 0);
     }
 
     private static void string() {
