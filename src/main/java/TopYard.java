@@ -910,6 +910,10 @@ public final class TopYard {
             fate = STANDING;
         }
 
+        int owner() {
+            return top == null ? NONE : top.owner;
+        }
+
         boolean stands() {
             return fate == STANDING;
         }
@@ -1011,7 +1015,8 @@ public final class TopYard {
 
         boolean holds(int number) {
             for (int place = 0; place < size; place++) {
-                if (spinners[place].number == number) {
+                Spinner spinner = at(place);
+                if (spinner != null && spinner.number == number) {
                     return true;
                 }
             }
@@ -1023,10 +1028,12 @@ public final class TopYard {
             if (size >= PLACES) {
                 return null;
             }
-            Spinner spinner = spinners[size];
-            spinner.top = top;
-            spinner.number = number;
             size++;
+            Spinner spinner = at(size - 1);
+            if (spinner != null) {
+                spinner.top = top;
+                spinner.number = number;
+            }
             return spinner;
         }
 
@@ -1058,7 +1065,7 @@ public final class TopYard {
                 return NONE;
             }
             for (int place = 0; place < size; place++) {
-                if (spinners[place].stands()) {
+                if (standsAt(place)) {
                     return place;
                 }
             }
@@ -1069,16 +1076,23 @@ public final class TopYard {
             knockCount = 0;
             lockCount = 0;
             for (int place = 0; place < size; place++) {
-                Spinner spinner = spinners[place];
-                int owner = spinner.top == null ? NONE : spinner.top.owner;
-                spinner.begin(owner >= 0 && owner < strengths.length ? strengths[owner] : 0);
+                Spinner spinner = at(place);
+                if (spinner != null) {
+                    int owner = spinner.owner();
+                    spinner.begin(owner >= 0 && owner < strengths.length ? strengths[owner] : 0);
+                }
             }
+        }
+
+        private boolean standsAt(int place) {
+            Spinner spinner = at(place);
+            return spinner != null && spinner.stands();
         }
 
         private int standing() {
             int found = 0;
             for (int place = 0; place < size; place++) {
-                found += spinners[place].stands() ? 1 : 0;
+                found += standsAt(place) ? 1 : 0;
             }
             return found;
         }
@@ -1087,8 +1101,8 @@ public final class TopYard {
             lash(tick);
             // Before they knock, tops do not touch one another, so each may go through these steps at once.
             for (int place = 0; place < size; place++) {
-                Spinner spinner = spinners[place];
-                if (spinner.stands()) {
+                Spinner spinner = at(place);
+                if (spinner != null && spinner.stands()) {
                     spinner.slow();
                     spinner.tilt();
                     spinner.push(bowl);
@@ -1097,15 +1111,18 @@ public final class TopYard {
                 }
             }
             for (int i = 0; i < size; i++) {
+                Spinner one = at(i);
                 for (int j = i + 1; j < size; j++) {
-                    if (spinners[i].stands() && spinners[j].stands()) {
-                        collide(spinners[i], spinners[j]);
+                    Spinner other = at(j);
+                    if (one != null && other != null && one.stands() && other.stands()) {
+                        collide(one, other);
                     }
                 }
             }
             for (int place = 0; place < size; place++) {
-                if (spinners[place].stands()) {
-                    spinners[place].fall(ring);
+                Spinner spinner = at(place);
+                if (spinner != null && spinner.stands()) {
+                    spinner.fall(ring);
                 }
             }
         }
